@@ -938,28 +938,21 @@ public final class TurfGiving {
                 if (ifs == MOST_IFS) {
                     return text.refuse(ROOM, at);
                 }
-                if (!keepsIf()) {
+                if (!(take(IF) && keepsSum() && take(LESS) && keepsSum() && take(THEN))) {
                     return false;
                 }
+                int leap = laws.put(UNLESS_LESS, 0);
+                if (!(keepsSum() && take(ELSE))) {
+                    return false;
+                }
+                laws.put(ANSWER, 0);
+                laws.leapToHere(leap);
             }
             if (!keepsSum()) {
                 return false;
             }
             laws.put(ANSWER, 0);
             return take(SEMICOLON);
-        }
-
-        private boolean keepsIf() {
-            if (!(take(IF) && keepsSum() && take(LESS) && keepsSum())) {
-                return false;
-            }
-            int leap = laws.put(UNLESS_LESS, 0);
-            if (!(take(THEN) && keepsSum() && take(ELSE))) {
-                return false;
-            }
-            laws.put(ANSWER, 0);
-            laws.leapToHere(leap);
-            return true;
         }
 
         /** An E: its signs wait until what they bind is taken down. */
@@ -1519,10 +1512,9 @@ public final class TurfGiving {
         }
 
         int owner(Moment moment, int plot) {
-            int counting = counting(moment, plot);
             int owner = land.first[plot];
             for (int giving = 0; giving < moment.givings; giving++) {
-                if (((counting >> giving) & 1) != 0) {
+                if (givings.plot[giving] == plot && givings.from[giving] == owner && stands(moment, giving)) {
                     owner = givings.to[giving];
                 }
             }
@@ -1574,7 +1566,8 @@ public final class TurfGiving {
             for (int witness = 0; witness < land.witnesses; witness++) {
                 int bit = 1 << witness;
                 if ((moment.alive & bit) != 0) {
-                    if (lotOf100(seed, 8 * moment.year + witness) < deathIn100(moment, witness)) {
+                    int chance = deathIn100(moment, witness);
+                    if (chance > 0 && lotOf100(seed, 8 * moment.year + witness) < chance) {
                         moment.alive &= ~bit;
                     }
                 }

@@ -124,6 +124,10 @@ public final class AheadTest {
         due.is("wat is dead", dead.cover(0, 0), 1);
         due.is("wat is dead", dead.cover(12, 0), -2);
         due.is("nobody is there", new TurfGiving().cover(0, -1), -2);
+        TurfGiving sixty = Due.of("witness w 0 60;");
+        due.is("59 years", sixty.cover(59, 0), 0);
+        due.is("60 years", sixty.cover(60, 0), -2);
+        due.is("60 years", Due.of("witness w 0 61;").cover(60, 0), 0);
         TurfGiving gap = Due.of("witness w 0 60;swears = if year < 3 then 1 else if year < 4 then 0 else 1;");
         due.is("behind each year", gap.cover(2, 0), 0);
         due.is("behind each year", gap.cover(5, 0), -2);
@@ -404,6 +408,11 @@ public final class AheadTest {
         due.is("seed 7", x.year(0, 1, 1, 1), 1);
         due.is("seeds 7, 8", x.year(0, 1, 1, 2), 1);
         due.is("seeds 7, 8", x.year(0, 0, 1, 2), 1);
+        x = Due.of("person a;person b;plot p 0 0 a;witness w 50 10;giving p a b 0 w;swears = 1;seed 7;dies = 47;");
+        due.is("47 is not less than 47", x.year(0, 1, 1, 2), 2);
+        x = Due.of("person a;person b;plot p 0 0 a;witness w 50 10;giving p a b 0 w;swears = 1;seed 9999;dies = 50;");
+        // by SEEDS 9999 .. 10003: 56 8 13 84 88
+        due.is("beyond 9999", x.year(0, 1, 1, 5), 3);
         due.is("in 0 years", x.year(0, 1, 0, 20), 20);
         due.is("in 60 years", x.year(0, 0, 60, 20), 20);
         due.is("all of them", x.year(0, 0, 3, 20) + x.year(0, 1, 3, 20), 20);

@@ -303,6 +303,7 @@ public final class NowTest {
         due.is("left first", asks("40 / 5 / 3"), 2);
         due.is("mixed", asks("1 + 2 * 3 - 8 / 4 + 1"), 6);
         due.is("deep", asks("1 + 2 * (1 + 2 * (1 + 2 * (1 + 2 * (1 + 1 * (0 + 1)))))"), 47);
+        due.is("long", Due.of("asks = 1" + "+1".repeat(192) + "-150;person a;plot p 7 3 a;").asks(0), 43);
         due.is("towards 0", asks("50 + (0 - 7) / 2"), 47);
         due.is("towards 0", asks("50 + 7 / (0 - 2)"), 47);
         due.is("by 0", asks("5 / 0"), 0);

@@ -128,6 +128,7 @@ public final class TextTest {
 
     private static void tokens() {
         fits("person abcdefgh;");
+        fits("person az;person zy;person zzzzzzzz;");
         fault("person abcdefghi;", 1, 7);
         fits("person\na\t;\rperson b;");
         fault("person\u000ba;", 1, 6);
@@ -353,5 +354,19 @@ public final class TextTest {
         due.is("dies not told", x.witness(0, 4), 0);
         due.is("swears not told", x.lasts(0), 19);
         due.is("age", x.witness(0, 0), 10);
+        // a third one, in the rows of the first
+        due.is("read", Due.read(x, "person a;plot p 2 3 a;plot q 2 5 a;witness w 10 20;"), 0);
+        due.is("people", x.count(0), 1);
+        due.is("plots", x.count(1), 2);
+        due.is("witnesses", x.count(2), 1);
+        due.is("givings", x.count(3), 0);
+        due.is("needs not told", x.count(13), 1);
+        due.is("ask not told", x.asks(0), 1);
+        due.is("walks not told", x.walk(0, 1), 2);
+        due.is("dies not told", x.witness(0, 4), 0);
+        for (int i = 0; i < 60; i++) {
+            due.is("read", Due.read(x, "person a;plot p 2 3 a;swears = 1 + 2 * 3;dies = 4;walks = 5;asks = 6 + 7;"), 0);
+        }
+        due.is("asks", x.asks(0), 13);
     }
 }
