@@ -687,7 +687,7 @@ public final class TurfGiving {
     /** The i-th of the numbers whose bits are set; NONE if there are not so many. */
     private static int bitAt(int set, int i) {
         int seen = 0;
-        for (int bit = 0; bit < Integer.SIZE; bit++) {
+        for (int bit = 0; bit < MOST_GIVINGS; bit++) {
             if (((set >>> bit) & 1) != 0) {
                 if (seen == i) {
                     return bit;
