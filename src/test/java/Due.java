@@ -1,18 +1,28 @@
+import java.io.IOException;
 import java.nio.charset.StandardCharsets;
+import java.nio.file.Files;
+import java.nio.file.Path;
 import java.util.Arrays;
+import java.util.LinkedHashSet;
+import java.util.Set;
 
 /** What the tests share: feeding a text, comparing answers, ending with the right exit code. */
 final class Due {
+    private final Set<String> sentences = new LinkedHashSet<>();
+    private String sentence = "";
     private int wrong = 0;
     private int asked = 0;
+
+    /** The words of the document that the answers from here on are looked at for. */
+    void sentence(String words) {
+        sentence = words;
+        sentences.add(words);
+    }
 
     void is(String what, long got, long want) {
         asked++;
         if (got != want) {
-            wrong++;
-            if (wrong <= 40) {
-                System.out.println(what + " answered " + got + ", due is " + want);
-            }
+            tellWrong(what + " answered " + got + ", due is " + want);
         }
     }
 
@@ -20,7 +30,22 @@ final class Due {
         is(what, got ? 1 : 0, want ? 1 : 0);
     }
 
+    void is(String what, String got, String want) {
+        asked++;
+        if (!got.equals(want)) {
+            tellWrong(what + " answered\n    " + got + ", due is\n    " + want);
+        }
+    }
+
+    private void tellWrong(String what) {
+        wrong++;
+        if (wrong <= 40) {
+            System.out.println(sentence.isEmpty() ? what : "\"" + sentence + "\": " + what);
+        }
+    }
+
     void end() {
+        tellStrangeSentences();
         System.out.println(asked + " answers looked at, " + wrong + " not as due");
         if (wrong != 0) {
             System.exit(1);
@@ -29,6 +54,24 @@ final class Due {
 
     int wrong() {
         return wrong;
+    }
+
+    /** A sentence that the document has no more is no failure, but whoever changes the tests should know of it. */
+    private void tellStrangeSentences() {
+        if (sentences.isEmpty()) {
+            return;
+        }
+        try {
+            String document = Files.readString(Path.of("../shared/DOC.md")).replaceAll("\\s+", " ");
+            for (String words : sentences) {
+                if (!document.contains(words)) {
+                    System.out.println("the document does not say: " + words);
+                }
+            }
+        } catch (IOException away) {
+            System.out.println("the document is not there: sentences are not looked for");
+        }
+        System.out.println(sentences.size() + " sentences of the document");
     }
 
     /** Puts a text on an empty tape, byte by byte as it is. */
