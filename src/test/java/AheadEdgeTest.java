@@ -42,6 +42,7 @@ public final class AheadEdgeTest {
         then();
         swearIn();
         yearBySeeds();
+        fullLand();
         nothingHappens();
         due.end();
     }
@@ -263,6 +264,18 @@ public final class AheadEdgeTest {
         due.is("e", z.cover(0, 0), 4);
         due.is("f", z.cover(0, 1), 5);
         due.is("g", z.cover(0, 2), 6);
+        String seven = four + "witness e 1 1;witness f 1 1;witness g 1 1;";
+        TurfGiving last = Due.of(seven + "swears = which - 5;");
+        due.is("g alone", last.cover(60, -1), 1);
+        due.is("g alone", last.cover(60, 0), 6);
+        TurfGiving besides = Due.of(seven + "swears = if seen < 2 then 0 else which - 5;");
+        due.is("g, and one more who sees it", besides.cover(60, -1), 2);
+        due.is("a", besides.cover(60, 0), 0);
+        due.is("g", besides.cover(60, 1), 6);
+        TurfGiving lastFour = Due.of(seven + "needs 4;swears = which - 2;");
+        for (int i = 0; i < 4; i++) {
+            due.is("d e f g", lastFour.cover(60, i), 3 + i);
+        }
         // one that stands beats two that come first
         TurfGiving one = Due.of(four + "swears = if which < 3 then 1 - since * (2 - which) else 1;");
         due.is("fewest first", one.cover(9, -1), 1);
@@ -520,6 +533,9 @@ public final class AheadEdgeTest {
         due.is("unsaid", x.idle(0), 0);
         x.unsay(2, false);
         due.is("counts", x.idle(0), 0);
+        TurfGiving first = Due.of("person a;person b;plot p 1 1 a;plot q 1 1 a;witness w 1 9;giving q b a 1 w;giving p b a 1 w;giving q a b 1 w;");
+        due.is("the first one told", first.idle(1), 1);
+        due.is("the second one told", first.idle(0), 2);
         for (int number = 4; number < 20; number++) {
             x.give(1, 1, 0, 4);
         }
@@ -742,6 +758,53 @@ public final class AheadEdgeTest {
             none("plot " + plot, y.year(plot, 0, 0, 1));
         }
         none("new object", new TurfGiving().year(0, 0, 0, 1));
+    }
+
+    private static final String FULL = "person a;person b;person c;person d;person e;person f;plot g 0 0 a;plot h 1 0 b;plot i 2 0 c;plot j 3 0 d;"
+            + "plot k 4 0 e;plot l 5 0 f;plot m 9 9 f;witness n 1 99;witness o 2 99;witness p 3 99;witness q 4 99;witness r 5 99;witness s 6 99;"
+            + "witness t 7 99;giving g a b 0 t;giving h b c 0 t;giving i c d 0 t;giving j d e 0 t;giving k e f 0 t;giving l f a 0 t;"
+            + "giving m f a 0 s;" + "giving m a b 0 s t;giving m b c 0 n o p q r s t;giving m c f 0 n;giving m f e 0 n o;giving m e f 0 t;";
+
+    /** As many of each sort as can be, and the last of each looked at. */
+    private static void fullLand() {
+        due.sentence("PLOTS, 7 at most");
+        TurfGiving x = Due.of(FULL);
+        for (int number = 12; number < 20; number++) {
+            due.is("give", x.give(6, number % 2 == 0 ? 5 : 0, number % 2 == 0 ? 0 : 5, 64), number);
+        }
+        int[] counts = {6, 7, 7, 20, 0, 127, 0xfffff, 0xfffff, 0, 0, 8, 0, 0, 1, 6, 6 + 1 + 2 + 7 + 1 + 2 + 1 + 8};
+        for (int what = 0; what < counts.length; what++) {
+            due.is("count " + what, x.count(what), counts[what]);
+        }
+        due.is("chain", x.chain(6, -1), 15);
+        due.is("counting", x.plot(6, 4), 14);
+        // without t: g .. l go back to their first; m is given from f to e by the first five, and stays there
+        due.is("hangs on t", x.hangs(0), 6);
+        due.is("seven plots", x.hangs(1), 7);
+        due.is("rich", x.rich(60, 0), 5);
+        due.is("two", x.rich(60, 1), 2);
+        due.is("has", x.has(5, 60), 2);
+        due.is("weakest", x.weakest(0), 0);
+        due.is("in 60 years", x.ownerIn(6, 60), 5);
+        due.is("swear in 60 years", x.swearIn(8, 60), 7);
+        due.is("back to the first", x.passes(0), 99);
+        due.is("the first one's all the time", x.passes(6), -2);
+        due.is("last", x.lasts(19), 99);
+        due.is("by seeds", x.year(6, 5, 60, 20), 20);
+        due.is("eldest", x.eldest(0), 6);
+        due.is("book", x.book(), 0);
+        due.is("the whole round", x.round(127, -1), 7 + 5 + 13);
+        due.is("the far one at last", x.round(127, 6), 6);
+        due.is("within", x.within(0, 25), 7);
+        due.is("within", x.within(0, 24), 6);
+        due.is("lapse", x.lapse(60), 0);
+        for (int giving = 0; giving < 20; giving++) {
+            x.unsay(giving, true);
+        }
+        due.is("all unsaid", x.count(8), 0xfffff);
+        due.is("none stands", x.count(6), 0);
+        due.is("all as at first", x.count(14), 0);
+        due.is("things done", x.count(10), 28);
     }
 
     private static TurfGiving livedIn() {

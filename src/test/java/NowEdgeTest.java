@@ -100,6 +100,14 @@ public final class NowEdgeTest {
         reckons(ofInts(1 << 30) + " + " + ofInts(1 << 30), LEAST);
         reckons(ofInts(-7), -7);
         reckons(ofInts(2000000000), 2000000000);
+        due.sentence("a 7th ( within one another (at it)");
+        // six brackets within one another, each of which leaves two sums open
+        String deep = "(1 + 2 * ".repeat(6) + "3" + ")".repeat(6);
+        reckons(deep, 255);
+        reckons("1 + 2 * " + deep, 511);
+        reckons("3000 - 2 * " + deep.replace("1 +", "1 -"), 3000 - 2 * 171);
+        due.is("on both sides", asks("if 1 + 2 * " + deep + " < 1 + 2 * " + deep + " then 1 else 2"), 2);
+        due.is("on both sides", asks("if 0 + 2 * " + deep + " < 1 + 2 * " + deep + " then 1 else 2"), 1);
     }
 
     private static void roundedTowardsZero() {

@@ -48,6 +48,8 @@ public final class TextEdgeTest {
         wrongAtTheInt();
         faultChangesNothing();
         inPlaceOfTheOneAhead();
+        fullAgainAndAgain();
+        brokenOffAndWhole();
         due.end();
     }
 
@@ -136,6 +138,23 @@ public final class TextEdgeTest {
             due.is("back " + n, y.back(n), 20 - n);
             due.is("the last ones go", y.read(), n == 20 ? 0 : 1);
         }
+        String whole = "person abc ; seed 12345 ; asks = 1 + 2 ; ??  ";
+        for (int length = 0; length <= whole.length(); length++) {
+            // what went must not be read, whatever it was: a text of that length alone tells what is due
+            TurfGiving cut = new TurfGiving();
+            Due.feed(cut, Due.bytes(whole));
+            due.is("back to " + length, cut.back(whole.length() - length), length);
+            TurfGiving alone = new TurfGiving();
+            Due.feed(alone, Due.bytes(whole.substring(0, length)));
+            due.is("read of " + length, cut.read(), alone.read());
+            due.is("place of " + length, cut.place(), alone.place());
+        }
+        goneBack("person a           b", 12, 1, 8);
+        goneBack("person ab          b", 12, 1, 8);
+        goneBack("seed 12;           b", 14, 1, 6);
+        goneBack("seed 12345;        b", 11, 1, 9);
+        goneBack("seed   ;           b", 16, 1, 4);
+        goneBack("seed                ", 16, 1, 4);
         TurfGiving full = new TurfGiving();
         for (int i = 0; i < 100; i++) {
             full.feed(-1, -1, -1, -1, -1);
@@ -144,6 +163,14 @@ public final class TextEdgeTest {
         due.is("back of one more", full.back(1), -1);
         due.is("feed anew", full.feed(0x20202020, 0x20202020, 0x20202020, 0x20202020, 0x20202020), 20);
         due.is("what went is gone", full.read(), 0);
+    }
+
+    private static void goneBack(String twenty, int n, int number, int place) {
+        TurfGiving x = new TurfGiving();
+        Due.feed(x, Due.bytes(twenty));
+        x.back(n);
+        due.is("read of " + twenty + " without " + n, x.read(), number);
+        due.is("place of " + twenty + " without " + n, x.place(), place);
     }
 
     private static void readEmpties() {
@@ -255,6 +282,14 @@ public final class TextEdgeTest {
         }
         fits("person abcdefgh;person abcdefgi;person bbcdefgh;person abcdefg;person a;person aa;");
         fault("person abcdefgh;person abcdefgh;", 3, 23);
+        for (char letter = 'a'; letter <= 'z'; letter++) {
+            StringBuilder text = new StringBuilder();
+            for (int letters = 1; letters <= 6; letters++) {
+                text.append("person ").append(("" + letter).repeat(letters)).append(";");
+            }
+            fits(text.toString());
+            fits("person a" + letter + ";person b" + letter + ";person " + letter + "c;person " + letter + "d;person x" + letter + "y;");
+        }
         fault("person Abc;", 1, 7);
         fault("person aBc;", 1, 8);
         fault("person a_b;", 1, 8);
@@ -526,6 +561,15 @@ public final class TextEdgeTest {
         due.is("not of the text ahead", z.witness(0, 4), 0);
         due.is("not of the text ahead", z.walk(0, 1), 4);
         due.is("not of the text ahead", z.asks(0), 1);
+        for (int i = 0; i < 4; i++) {
+            Due.read(z, i % 2 == 0 ? LAND + "dies=1;walks=2;asks=3;swears=0;needs 4;seed 7;" : "");
+            Due.read(z, LAND + "giving p a b 8 v;");
+            due.is("nor of the one ahead of it", z.count(6), 1);
+            due.is("nor of the one ahead of it", z.witness(0, 4), 0);
+            due.is("nor of the one ahead of it", z.walk(0, 1), 4);
+            due.is("nor of the one ahead of it", z.asks(0), 1);
+            due.is("nor of the one ahead of it", z.count(13), 1);
+        }
     }
 
     private static void needsAndSeedTheLast() {
@@ -544,6 +588,11 @@ public final class TextEdgeTest {
         x = Due.of("seed 0;seed 9999;" + dying + "seed 7;");
         x.years(1);
         due.is("the last one", x.count(5), 0b101);
+        for (int i = 0; i < 3; i++) {
+            Due.read(x, dying);
+            x.years(1);
+            due.is("not that of a text ahead", x.count(5), 0b110);
+        }
     }
 
     // ---- FAULTS
@@ -734,6 +783,14 @@ public final class TextEdgeTest {
             fault(LAND + "giving p a b 1 " + wrong + ";", 4, at + 15);
             fault(LAND + "giving p a b 1 w " + wrong + ";", 4, at + 17);
         }
+        for (String wrong : new String[] {"zz", "ab", "zzzzzzzz", "aaaaaaaa"}) {
+            fault(LAND + "plot x 1 1 " + wrong + ";", 4, at + 11);
+            fault(LAND + "giving " + wrong + " a b 1;", 4, at + 7);
+            fault(LAND + "giving p " + wrong + " b 1 w;", 4, at + 9);
+            fault(LAND + "giving p a " + wrong + " 1 w w;", 4, at + 11);
+            fault(LAND + "giving p a " + wrong + " 100;", 4, at + 11);
+            fault(LAND + "giving p a b 1 " + wrong + " " + wrong + ";", 4, at + 15);
+        }
         fault("plot p 1 1 a;person a;", 4, 11);
         fault("plot p 1 1 p;", 4, 11);
         fault(LAND + "giving x a b 1;plot x 1 1 a;", 4, at + 7);
@@ -776,24 +833,34 @@ public final class TextEdgeTest {
         return x;
     }
 
+    private static String withoutPlace(TurfGiving x) {
+        return Look.at(x).replaceFirst("place -?\\d+", "");
+    }
+
     private static void faultChangesNothing() {
         due.sentence("A text with a FAULT changes nothing but the tape");
-        String ahead = "person z;needs 3;seed 9;swears=0;dies=100;walks=50;asks=60;";
-        String[] wrongs = {"?", "person c;".repeat(7), "person c;person c;", "plot t 1 1 c;", "needs 0;"};
+        String ahead = "person zz;person yy;plot xx 1 1 zz;witness ww 1 1;giving xx zz yy 1 ww;needs 3;seed 9;swears=0;dies=100;walks=50;asks=60;";
+        String[][] wrongs = {{"?", "person", "person c", "plot t 1", "asks = ((1", "asks = if 1 < 2 then", "giving xx zz yy 1 ww", ";", "12345"},
+            {"person c;".repeat(7), "plot c 1 1 zz;".repeat(7), "witness c 1 1;".repeat(7), "giving xx zz yy 1;".repeat(12), "asks=(((((((",
+                "seed 1;".repeat(121), "asks = " + "if 1 < 2 then 3 else ".repeat(5)},
+            {"person zz;", "person xx;", "person ww;", "plot zz 1 1 zz;", "plot xx 1 1 zz;", "plot ww 1 1 zz;", "witness zz 1 1;",
+                "witness xx 1 1;", "witness ww 1 1;", "giving xx zz zz 1;", "giving xx zz yy 1 ww ww;"},
+            {"plot tt 1 1 vv;", "plot tt 1 1 xx;", "giving vv zz yy 1;", "giving xx vv yy 1;", "giving xx zz vv 1;", "giving xx zz yy 1 vv;",
+                "giving xx zz yy 1 ww vv;", "giving zzzzzzzz zz yy 1;", "giving xx aaaaaaaa yy 1;", "giving xx zz aaaaaaaa 1 ww;"},
+            {"needs 0;", "needs 5;", "plot tt 10 1 zz;", "plot tt 1 10 zz;", "witness vv 100 1;", "witness vv 1 100;", "giving xx zz yy 100 ww;"}};
+        String same = withoutPlace(livedIn());
+        TurfGiving all = livedIn();
         for (int i = 0; i < wrongs.length; i++) {
-            TurfGiving x = livedIn();
-            due.is("read", Due.read(x, ahead + wrongs[i]), i + 1);
-            due.is("place is there", x.place() >= ahead.length(), true);
-            // place() is of the latest read: what else Look tells must be as if there had been none
-            TurfGiving y = livedIn();
-            String changed = Look.at(x).replaceFirst("place -?\\d+", "");
-            due.is("behind fault " + (i + 1), changed, Look.at(y).replaceFirst("place -?\\d+", ""));
+            for (String wrong : wrongs[i]) {
+                TurfGiving x = livedIn();
+                due.is("read of " + wrong, Due.read(x, ahead + wrong), i + 1);
+                due.is("place of " + wrong, x.place() >= ahead.length(), true);
+                // place() is of the latest read: all else must be as if there had been none
+                due.is("behind " + wrong, withoutPlace(x), same);
+            }
+            Due.read(all, ahead + wrongs[i][0]);
         }
-        TurfGiving z = livedIn();
-        for (String wrong : wrongs) {
-            Due.read(z, ahead + wrong);
-        }
-        due.is("behind all", Look.at(z).replaceFirst("place -?\\d+", ""), Look.at(livedIn()).replaceFirst("place -?\\d+", ""));
+        due.is("behind one of each", withoutPlace(all), same);
     }
 
     private static void inPlaceOfTheOneAhead() {
@@ -818,5 +885,42 @@ public final class TextEdgeTest {
         due.is("undo", x.undo(), false);
         due.is("restore 1", x.restore(1), false);
         due.is("which", x.which(1, 0), -1);
+    }
+
+    private static final String FULL = numbered("person a", 0, 6, ";") + numbered("plot p", 0, 7, " 1 2 aa;") + numbered("witness w", 0, 7, " 5 60;")
+            + "giving pa aa ab 1 wa wb;".repeat(11) + "giving pg aa af 1 wg;";
+
+    /** A full text again and again: what one read had counted is no matter to the next. */
+    private static void fullAgainAndAgain() {
+        due.sentence("else it is in place of the one ahead");
+        TurfGiving x = new TurfGiving();
+        for (int i = 0; i < 4; i++) {
+            due.is("read", Due.read(x, FULL), 0);
+            int[] counts = {6, 7, 7, 12, 0, 127, 4095, 0b100000000001, 0, 0, 0, 0, 0, 1, 2, 23};
+            for (int what = 0; what < counts.length; what++) {
+                due.is("count " + what, x.count(what), counts[what]);
+            }
+            due.is("the last plot, by the last person and witness", x.plot(6, 3), 5);
+        }
+        due.sentence("2 ROOM: a 401st TOKEN; one more of a sort than told (at its first TOKEN)");
+        for (String sort : new String[] {"person", "plot", "witness", "giving"}) {
+            due.is("one more", Due.read(x, FULL + sort), 2);
+            due.is("place", x.place(), FULL.length());
+            due.is("read", Due.read(x, FULL), 0);
+        }
+    }
+
+    /** A text that breaks off anywhere, and the whole of it behind: the first leaves nothing that would matter. */
+    private static void brokenOffAndWhole() {
+        due.sentence("A text with a FAULT changes nothing but the tape");
+        String law = "asks = if ((1 + 2) * 3 - (4)) < 2 * (3 + 1) then ((((((1 + 1)))))) * 2 else if 1 < 2 then 3 else (down - 1) * (4 / 2) + 5;";
+        String text = "person a;person b;plot p 1 2 a;witness w 5 9;giving p a b 1 w;" + law + "needs 2;";
+        String due1 = Look.at(Due.of(text));
+        for (int length = 0; length < text.length(); length++) {
+            TurfGiving x = new TurfGiving();
+            Due.read(x, text.substring(0, length));
+            due.is("whole behind " + length, Due.read(x, text), 0);
+            due.is("whole behind " + length, Look.at(x), due1);
+        }
     }
 }

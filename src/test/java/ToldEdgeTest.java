@@ -7,7 +7,7 @@ public final class ToldEdgeTest {
     private static final String LAND = "person a;person b;plot p 1 2 a;plot q 3 5 b;witness u 50 20;witness v 10 9;"
             + "witness w 70 30;giving p a b 3 u v;giving q b a 8 v;";
     private static final int[] NO_WITNESS = {LEAST, -33, -2, -1, 3, 6, 7, 32, 33, MOST};
-    private static final int[] NO_SLOT = {LEAST, -33, -32, -2, -1, 3, 4, 31, 32, 33, 64, MOST};
+    private static final int[] NO_SLOT = {LEAST, -33, -32, -31, -30, -2, -1, 3, 4, 31, 32, 33, 34, 35, 64, MOST};
     private static final int[] NO_WHAT = {LEAST, -2, -1, 2, 3, 32, 33, MOST};
 
     public static void main(String[] args) {
@@ -114,6 +114,19 @@ public final class ToldEdgeTest {
         x.forget();
         x.tell(1, false);
         due.is("the other way round", x.which(1, 1), 0);
+        x.forget();
+        for (int i = 0; i < 20; i++) {
+            x.tell(1, true);
+        }
+        x.forget();
+        for (int i = 0; i < 20; i++) {
+            x.tell(2, i != 7);
+        }
+        x.forget();
+        for (int i = 0; i < 20; i++) {
+            x.tell(i == 19 ? 0 : 2, false);
+            due.is("no, where there was a yes", x.which(i + 1, 1), i == 19 ? 2 : 3);
+        }
         due.is("nothing told", new TurfGiving().forget(), 0);
     }
 
@@ -238,6 +251,11 @@ public final class ToldEdgeTest {
         TurfGiving all = Due.of(two + "dies = 100;");
         all.years(1);
         due.is("all dead: alike", all.ask(0), 0);
+        TurfGiving twenty = Due.of(two + "swears = 0;");
+        for (int number = 2; number < 20; number++) {
+            twenty.give(0, 0, 1, 7);
+        }
+        due.is("none helps, of twenty", twenty.ask(0), 0);
         due.is("one giving", Due.of(two.substring(0, two.length() - 15)).ask(0), 0);
     }
 
@@ -379,6 +397,12 @@ public final class ToldEdgeTest {
             due.is("restore " + slot, x.restore(slot), false);
             due.is("nothing happens", Look.at(x), Look.at(livedIn()));
         }
+        for (int slot : NO_SLOT) {
+            TurfGiving x = allHeld();
+            due.is("restore " + slot, x.restore(slot), false);
+            due.is("hold " + slot, x.hold(slot), false);
+            due.is("nothing happens", Look.at(x), Look.at(allHeld()));
+        }
         for (int slot = 0; slot < 2; slot++) {
             TurfGiving x = livedIn();
             due.is("nothing held in " + slot, x.restore(slot), false);
@@ -391,6 +415,17 @@ public final class ToldEdgeTest {
         due.is("held", y.restore(2), true);
         due.is("a right text", Due.read(y, LAND), 0);
         due.is("held no more", y.restore(2), false);
+    }
+
+    private static TurfGiving allHeld() {
+        TurfGiving x = livedIn();
+        x.hold(0);
+        x.years(2);
+        x.hold(1);
+        x.years(3);
+        x.hold(2);
+        x.unsay(0, true);
+        return x;
     }
 
     private static void notHeld() {
