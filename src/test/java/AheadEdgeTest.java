@@ -435,6 +435,13 @@ public final class AheadEdgeTest {
     // ---- PEOPLE and PLOTS
 
     private static void has() {
+        due.sentence("HAS: how many PLOTS are a PERSON's now; in n YEARS (0 .. 60).");
+        TurfGiving edge = Due.of(ONE + "60 - year;");
+        due.is("b in 59", edge.has(1, 59), 1);
+        due.is("b in 60", edge.has(1, 60), 0);
+        edge.years(1);
+        due.is("from now on", edge.has(1, 58), 1);
+        due.is("from now on", edge.has(1, 59), 0);
         due.sentence("HAS: in n YEARS (0: now); NONE: no such ones.");
         TurfGiving x = Due.of(LAND);
         due.is("a now", x.has(0, 0), 1);
@@ -664,6 +671,17 @@ public final class AheadEdgeTest {
     // ---- IN n YEARS
 
     private static void ownerIn() {
+        due.sentence("IN n YEARS: whose a PLOT is; how old a WITNESS is, whether alive; how many SWEAR to a GIVING.");
+        TurfGiving ahead = Due.of(LAND + "dies = age / 3;seed 31;");
+        TurfGiving there = Due.of(LAND + "dies = age / 3;seed 31;");
+        for (int n = 0; n <= 60; n++) {
+            // what would be in n YEARS is what is once they have gone by, one by one
+            due.is("whose in " + n, ahead.ownerIn(0, n), there.plot(0, 3));
+            due.is("age in " + n, ahead.then(0, n, 0), there.witness(0, 0));
+            due.is("alive in " + n, ahead.then(1, n, 1), there.witness(1, 2));
+            due.is("swear in " + n, ahead.swearIn(0, n), Integer.bitCount(there.giving(0, 5)));
+            there.years(1);
+        }
         due.sentence("IN n YEARS (0 .. 60) whose a PLOT is; NONE: no such ones.");
         TurfGiving x = Due.of(LAND);
         int[][] rows = {{0, 0, 1}, {0, 16, 1}, {0, 17, 0}, {0, 60, 0}, {1, 0, 0}, {1, 1, 1}, {1, 60, 1}};

@@ -14,6 +14,7 @@ public final class NowEdgeTest {
         firstIfThatHolds();
         intsThatWrap();
         roundedTowardsZero();
+        partsAndUnits();
         dividedByZero();
         varsNotTold();
         swearsMoreThanZero();
@@ -124,6 +125,24 @@ public final class NowEdgeTest {
         reckons(ofInts(LEAST) + " / " + ofInts(MOST), -1);
         reckons("7 / 2 * 2", 6);
         reckons("2 * 7 / 2", 7);
+    }
+
+    private static void partsAndUnits() {
+        due.sentence("E: PART {('+' | '-') PART}. PART: UNIT {('*' | '/') UNIT}.");
+        reckons("9 - 4 - 3", 2);
+        reckons("9 - 4 + 3", 8);
+        reckons("9 + 4 - 3 - 2 + 1", 9);
+        reckons("90 / 9 / 5", 2);
+        reckons("90 / 9 * 5", 50);
+        reckons("9 * 4 / 5 * 2", 14);
+        reckons("2 + 3 * 4", 14);
+        reckons("2 * 3 + 4", 10);
+        reckons("20 - 3 * 4 - 1", 7);
+        reckons("20 - 12 / 4 * 2 + 1", 15);
+        reckons("(20 - 12) / 4 * (2 + 1)", 6);
+        reckons("20 - (12 - (4 - 1))", 11);
+        reckons("1" + "+1".repeat(59), 60);
+        reckons("1" + "*1".repeat(59), 1);
     }
 
     private static void dividedByZero() {
@@ -270,7 +289,9 @@ public final class NowEdgeTest {
     }
 
     private static void lots() {
-        due.sentence("the rest of h, moved 1 bit down likewise, by n (32 bits that wrap).");
+        due.sentence("LOT n of a SEED and a which: h is the SEED; for each of 117, which: h becomes (h and it, each bit of which is in just one)"
+                + " times 1103515245 and 12345 more, then h and h moved 15 bits down (zeros come in), likewise;"
+                + " the rest of h, moved 1 bit down likewise, by n (32 bits that wrap).");
         due.is("by hand", lot(100, 7, 0), 62);
         due.is("by hand", lot(100, 7, 1), 3);
         int[] seeds = {0, 1, 7, 116, 117, 118, 5000, 9998, 9999};
@@ -734,6 +755,23 @@ public final class NowEdgeTest {
             none("count " + what, x.count(what));
         }
         none("count 17", x.count(17));
+        due.sentence("0 PEOPLE, 1 PLOTS, 2 WITNESSES, 3 GIVINGS, 4 the year");
+        int[] first = {2, 2, 3, 2, 0};
+        for (int what = 0; what < first.length; what++) {
+            due.is("count " + what, x.count(what), first[what]);
+            due.is("count " + what + " of a new object", new TurfGiving().count(what), 0);
+        }
+        due.sentence("9 bytes on the tape");
+        TurfGiving taped = new TurfGiving();
+        for (int bytes = 0; bytes < 2000; bytes += 20) {
+            due.is("tape", taped.count(9), bytes);
+            taped.feed(0, 0, 0, 0, 0);
+        }
+        due.is("tape", taped.count(9), 2000);
+        taped.feed(0, 0, 0, 0, 0);
+        due.is("tape", taped.count(9), 2000);
+        taped.back(1999);
+        due.is("tape", taped.count(9), 1);
         due.sentence("10 things that can be undone, 11 TOLD ones, 12 SLOTS that hold something, 13 how many it NEEDS");
         for (int slot = 0; slot < 3; slot++) {
             due.is("slots", x.count(12), slot);
