@@ -561,8 +561,11 @@ public final class TextEdgeTest {
         due.is("not of the text ahead", z.witness(0, 4), 0);
         due.is("not of the text ahead", z.walk(0, 1), 4);
         due.is("not of the text ahead", z.asks(0), 1);
-        for (int i = 0; i < 4; i++) {
-            Due.read(z, i % 2 == 0 ? LAND + "dies=1;walks=2;asks=3;swears=0;needs 4;seed 7;" : "");
+        for (int between = 0; between < 3; between++) {
+            Due.read(z, LAND + "dies=1;walks=2;asks=3;swears=0;needs 4;seed 7;");
+            for (int i = 0; i < between; i++) {
+                Due.read(z, "");
+            }
             Due.read(z, LAND + "giving p a b 8 v;");
             due.is("nor of the one ahead of it", z.count(6), 1);
             due.is("nor of the one ahead of it", z.witness(0, 4), 0);
