@@ -729,9 +729,9 @@ public final class TurfGiving {
     /** What a tape is made of, TOKEN by TOKEN, and the FAULT that was found in it. */
     private static final class Text {
         // One row more than a text may have: for the 401st TOKEN, or for the end.
-        final int[] kind = new int[MOST_TOKENS + 1];
-        final int[] begin = new int[MOST_TOKENS + 1];
-        final long[] value = new long[MOST_TOKENS + 1];
+        private final int[] kind = new int[MOST_TOKENS + 1];
+        private final int[] begin = new int[MOST_TOKENS + 1];
+        private final long[] value = new long[MOST_TOKENS + 1];
         private final long[] words = new long[WORD_COUNT];
         int fault = 0;
         int place = NONE;
@@ -770,6 +770,14 @@ public final class TurfGiving {
             fault = number;
             place = row >= 0 && row < begin.length ? begin[row] : NONE;
             return false;
+        }
+
+        int kindAt(int row) {
+            return row >= 0 && row < kind.length ? kind[row] : END;
+        }
+
+        long valueAt(int row) {
+            return row >= 0 && row < value.length ? value[row] : 0;
         }
 
         private static int behindBlanks(byte[] bytes, int from, int length) {
@@ -870,8 +878,8 @@ public final class TurfGiving {
             plots = 0;
             witnesses = 0;
             givings = 0;
-            for (int i = 0; i <= MOST_TOKENS && text.kind[at] != END; i++) {
-                int first = text.kind[at];
+            for (int i = 0; i <= MOST_TOKENS && text.kindAt(at) != END; i++) {
+                int first = text.kindAt(at);
                 boolean isLaw = first >= SWEARS && first <= ASKS;
                 if (!(isLaw ? keepsLaw(first) : keepsTell(first))) {
                     return false;
@@ -910,7 +918,7 @@ public final class TurfGiving {
         }
 
         private boolean take(int kind) {
-            if (at >= text.kind.length || text.kind[at] != kind) {
+            if (text.kindAt(at) != kind) {
                 return text.refuse(SYNTAX, at);
             }
             if (at >= MOST_TOKENS) {
@@ -921,7 +929,7 @@ public final class TurfGiving {
         }
 
         private boolean takeNames() {
-            for (int i = 0; i <= MOST_TOKENS && text.kind[at] == NAME; i++) {
+            for (int i = 0; i <= MOST_TOKENS && text.kindAt(at) == NAME; i++) {
                 if (!take(NAME)) {
                     return false;
                 }
@@ -934,7 +942,7 @@ public final class TurfGiving {
                 return false;
             }
             laws.begin(first - SWEARS);
-            for (int ifs = 0; ifs <= MOST_IFS && text.kind[at] == IF; ifs++) {
+            for (int ifs = 0; ifs <= MOST_IFS && text.kindAt(at) == IF; ifs++) {
                 if (ifs == MOST_IFS) {
                     return text.refuse(ROOM, at);
                 }
@@ -963,7 +971,7 @@ public final class TurfGiving {
                 if (!takeOpenings() || !takeUnit() || !takeClosings()) {
                     return false;
                 }
-                int sign = text.kind[at];
+                int sign = text.kindAt(at);
                 if (rank(sign) == 0) {
                     settle(1);
                     return depth == 0 || take(CLOSE);
@@ -985,7 +993,7 @@ public final class TurfGiving {
         }
 
         private boolean takeOpenings() {
-            for (int i = 0; i <= MOST_TOKENS && text.kind[at] == OPEN; i++) {
+            for (int i = 0; i <= MOST_TOKENS && text.kindAt(at) == OPEN; i++) {
                 if (depth == MOST_BRACKETS) {
                     return text.refuse(ROOM, at);
                 }
@@ -999,9 +1007,9 @@ public final class TurfGiving {
         }
 
         private boolean takeUnit() {
-            int kind = text.kind[at];
+            int kind = text.kindAt(at);
             if (kind == INT) {
-                laws.put(PUSH, (int) text.value[at]);
+                laws.put(PUSH, (int) text.valueAt(at));
                 return take(kind);
             }
             if (kind >= FIRST_VAR && kind <= LAST_VAR) {
@@ -1012,7 +1020,7 @@ public final class TurfGiving {
         }
 
         private boolean takeClosings() {
-            for (int i = 0; i <= MOST_TOKENS && depth > 0 && text.kind[at] == CLOSE; i++) {
+            for (int i = 0; i <= MOST_TOKENS && depth > 0 && text.kindAt(at) == CLOSE; i++) {
                 if (!take(CLOSE)) {
                     return false;
                 }
@@ -1057,8 +1065,8 @@ public final class TurfGiving {
         boolean fills(Land into) {
             land = into;
             at = 0;
-            for (int i = 0; i <= MOST_TOKENS && at < MOST_TOKENS && text.kind[at] != END; i++) {
-                int first = text.kind[at];
+            for (int i = 0; i <= MOST_TOKENS && at < MOST_TOKENS && text.kindAt(at) != END; i++) {
+                int first = text.kindAt(at);
                 at++;
                 if (!fillsOne(first)) {
                     return false;
@@ -1090,14 +1098,15 @@ public final class TurfGiving {
         }
 
         private void passSemicolon() {
-            for (int i = 0; i <= MOST_TOKENS && at < MOST_TOKENS && text.kind[at] != SEMICOLON; i++) {
+            for (int i = 0; i <= MOST_TOKENS && at < MOST_TOKENS && text.kindAt(at) != SEMICOLON; i++) {
                 at++;
             }
             at = Math.min(at + 1, MOST_TOKENS);
         }
 
         private boolean fillsPerson() {
-            if (!takeNewName(PERSON, land.people)) {
+            int row = land.people;
+            if (row >= MOST_PEOPLE || !takeNewName(PERSON, row)) {
                 return false;
             }
             land.people++;
@@ -1136,18 +1145,19 @@ public final class TurfGiving {
             }
             int ago = takeNumber(0, 99);
             int before = 0;
-            for (int i = 0; i <= MOST_TOKENS && text.fault == 0 && text.kind[at] == NAME; i++) {
+            for (int i = 0; i <= MOST_TOKENS && text.fault == 0 && text.kindAt(at) == NAME; i++) {
                 int bit = 1 << takeKnown(WITNESS);
                 if (text.fault == 0 && (before & bit) != 0) {
                     return text.refuse(TWICE, at - 1);
                 }
                 before |= bit;
             }
-            if (text.fault == 0) {
-                land.told.put(land.givings, plot, from, to, -ago, before);
-                land.givings++;
+            if (text.fault != 0 || land.givings >= MOST_GIVINGS_OF_A_TEXT) {
+                return false;
             }
-            return text.fault == 0;
+            land.told.put(land.givings, plot, from, to, -ago, before);
+            land.givings++;
+            return true;
         }
 
         /** Once a FAULT is found, the rest of its TELL is not looked at, so that the first one stays. */
@@ -1155,7 +1165,7 @@ public final class TurfGiving {
             if (text.fault != 0 || at >= MOST_TOKENS) {
                 return least;
             }
-            long number = text.value[at];
+            long number = text.valueAt(at);
             if (number < least || number > most) {
                 text.refuse(WRONG, at);
                 return least;
@@ -1168,10 +1178,10 @@ public final class TurfGiving {
             if (at >= MOST_TOKENS) {
                 return false;
             }
-            if (land.rowOfName(text.value[at]) != NONE) {
+            if (land.rowOfName(text.valueAt(at)) != NONE) {
                 return text.refuse(TWICE, at);
             }
-            land.addName(text.value[at], sort, number);
+            land.addName(text.valueAt(at), sort, number);
             at++;
             return true;
         }
@@ -1180,7 +1190,7 @@ public final class TurfGiving {
             if (text.fault != 0 || at >= MOST_TOKENS) {
                 return 0;
             }
-            int number = land.numberOfName(text.value[at], sort);
+            int number = land.numberOfName(text.valueAt(at), sort);
             if (number == NONE) {
                 text.refuse(UNKNOWN, at);
                 return 0;

@@ -92,6 +92,7 @@ public final class FaceTest {
             due.is("import " + imports.group(1), imports.group(1).equals("java.util.Arrays"), true);
         }
         due.is("signs of the source are 0 to 127", source.chars().allMatch(c -> c < 128), true);
+        rowsOfText(code);
         int begun = 0;
         String[] lines = source.split("\n");
         for (int i = 0; i < lines.length; i++) {
@@ -102,5 +103,11 @@ public final class FaceTest {
                 due.is("lines of " + lines[begun], i - begun <= 60 || lines[i].equals("    }") && lines[begun].startsWith("        "), true);
             }
         }
+    }
+
+    /** "an index is looked at before it is used": a text's rows are used in Text alone, which looks at each index. */
+    private static void rowsOfText(String code) {
+        Matcher rows = Pattern.compile("text\\.(kind|begin|value)\\b").matcher(code);
+        due.is("rows of a text are used outside of Text", rows.find(), false);
     }
 }
